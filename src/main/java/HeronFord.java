@@ -132,8 +132,8 @@ public final class HeronFord {
     // ---- 2 passes
 
     public int passes(int sheet, int lane, int i, int n, int what) {
-        boolean known = isWithin(what, 0, 4) || isWithin(what, SCALES_OF_FIRST, SCALES_OF_FIRST + MOST_FISH - 1);
-        int refusal = refusalOf(sheet, lane, i, n, known);
+        boolean whatAsTold = isWithin(what, 0, 4) || isWithin(what, SCALES_OF_FIRST, SCALES_OF_FIRST + MOST_FISH - 1);
+        int refusal = refusalOf(sheet, lane, i, n, whatAsTold);
         if (refusal != 0) {
             return refusal;
         }
@@ -154,10 +154,7 @@ public final class HeronFord {
     }
 
     public int owes(int f, int other, int sheet, int lane, int i, int n) {
-        if (!told.has(f) || !told.has(other)) {
-            return unknownFish();
-        }
-        int refusal = refusalOf(sheet, lane, i, n, true);
+        int refusal = told.has(other) ? refusalWithFish(f, sheet, lane, i, n) : unknownFish();
         if (refusal != 0) {
             return refusal;
         }
@@ -166,10 +163,7 @@ public final class HeronFord {
     }
 
     public int toll(int f, int sheet, int lane, int i, int n) {
-        if (!told.has(f)) {
-            return unknownFish();
-        }
-        int refusal = refusalOf(sheet, lane, i, n, true);
+        int refusal = refusalWithFish(f, sheet, lane, i, n);
         if (refusal != 0) {
             return refusal;
         }
@@ -206,10 +200,7 @@ public final class HeronFord {
     }
 
     public int wants(int f, int sheet, int lane, int i, int n) {
-        if (!told.has(f)) {
-            return unknownFish();
-        }
-        int refusal = refusalOf(sheet, lane, i, n, true);
+        int refusal = refusalWithFish(f, sheet, lane, i, n);
         if (refusal != 0) {
             return refusal;
         }
@@ -245,10 +236,7 @@ public final class HeronFord {
     }
 
     public int had(int f, int sheet, int lane, int i, int n) {
-        if (!told.has(f)) {
-            return unknownFish();
-        }
-        int refusal = refusalOf(sheet, lane, i, n, true);
+        int refusal = refusalWithFish(f, sheet, lane, i, n);
         if (refusal != 0) {
             return refusal;
         }
@@ -276,10 +264,7 @@ public final class HeronFord {
     }
 
     public int kinds(int f, int sheet, int lane, int i, int n) {
-        if (!told.has(f)) {
-            return unknownFish();
-        }
-        int refusal = refusalOf(sheet, lane, i, n, true);
+        int refusal = refusalWithFish(f, sheet, lane, i, n);
         if (refusal != 0) {
             return refusal;
         }
@@ -476,6 +461,10 @@ public final class HeronFord {
     private int unknownFish() {
         fault = 0;
         return UNKNOWN;
+    }
+
+    private int refusalWithFish(int f, int sheet, int lane, int i, int n) {
+        return told.has(f) ? refusalOf(sheet, lane, i, n, true) : unknownFish();
     }
 
     /** What a call answers for passes that it refuses, or by a fault of theirs; 0: it takes them. */

@@ -427,6 +427,7 @@ public final class PromiseTest {
         due.is("least(0)", x.least(0, 0), OUTSIDE);
         due.is("least(-1)", x.least(-1, 0), OUTSIDE);
         due.is("least, k -2", x.least(1, -2), UNKNOWN);
+        due.is("least by scales again", x.least(1, -1), 7);
         x.scales(1, 2);
         due.is("least behind scales()", x.least(1, -1), NONE);
         x.dear(0);
@@ -655,6 +656,8 @@ public final class PromiseTest {
         due.is("a longer one", x.sheet(3, 2, 60), 1);
         due.is("a longer one's cell", x.cell(3, 59, 2), 0);
         due.is("none", x.sheet(0, 0, 0), 1);
+        due.is("a cell of none", x.put(0, 0, 1), INDEX);
+        due.is("a cell of none", x.cell(0, 0, 0), LOST);
         due.is("none is not nothing", x.lose(0), 1);
     }
 
