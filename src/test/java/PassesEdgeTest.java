@@ -438,7 +438,10 @@ public final class PassesEdgeTest {
                 edges.is("fault()", x.fault(), 0);
             }
         });
-        edges.of(7, "of a pair UNKNOWN ahead of OUTSIDE", unused -> edges.is("both", Due.passes(Due.told(FIVE), 1, 5, 4), UNKNOWN));
+        edges.of(7, "of a pair UNKNOWN ahead of OUTSIDE", x -> {
+            Due.tell(x, FIVE);
+            edges.is("both", Due.passes(x, 1, 5, 4), UNKNOWN);
+        });
         edges.of(7, "pair by pair: the first one that is refused", unused -> {
             HeronFord x = Due.told(FIVE);
             edges.is("how, then FISH", Due.passes(x, 1, 0, 4, 5, 0), OUTSIDE);

@@ -4,13 +4,14 @@ import java.util.List;
 /** Runs of calls with any numbers, the same each time: none throws, and those that are refused change nothing. */
 public final class RefusalTest {
     private static final Due due = new Due();
-    private static final int CALLS = 250;
+    /** So many that, with what state() asks, an object stays under 512 calls. */
+    private static final int CALLS = 115;
     private static final int[] ODD = {-1, 61, 100, Integer.MAX_VALUE, Integer.MIN_VALUE, 1 << 30, -20, 64};
     private static final long LOST = Long.MIN_VALUE;
     private static long seed = 4711;
 
     public static void main(String[] args) {
-        for (int run = 0; run < 2000; run++) {
+        for (int run = 0; run < 5000; run++) {
             run(run);
         }
         due.end();
@@ -119,8 +120,13 @@ public final class RefusalTest {
             }
         }
         for (int k = 0; k < 4; k++) {
-            for (int cell = 0; cell < 48; cell++) {
-                state.append(x.cell(k, cell % 16, cell / 16)).append(' ').append(x.fault()).append(' ');
+            for (int lane = 0; lane < 3; lane++) {
+                x.cell(k, -1, lane);
+                boolean isItsLane = x.fault() == 3;
+                state.append(x.fault()).append(' ');
+                for (int i = 0; i < 25 && isItsLane; i++) {
+                    state.append(x.cell(k, i, lane)).append(' ');
+                }
             }
         }
         return state.append(x.trace()).toString();

@@ -308,8 +308,8 @@ public final class SheetsEdgeTest {
         edges.of(23, "INDEX: i, j, n below 0", x -> {
             x.sheet(0, 2, 3);
             x.sheet(1, 2, 5);
-            int[][] below = {{-1, 0, 1}, {0, -1, 1}, {0, 0, -1}, {-1, 0, 0}, {0, -1, 0}, {LEAST, 0, 0}, {0, LEAST, 0}, {0, 0, LEAST},
-                {3, 5, -1}, {LEAST, LEAST, LEAST}, {-1, 0, 2}, {0, -1, 2}};
+            int[][] below = {{-1, 0, 1}, {0, -1, 1}, {0, 0, -1}, {-1, 0, 0}, {0, -1, 0}, {LEAST, 0, 0}, {0, LEAST, 0},
+                {0, 0, LEAST}, {3, 5, -1}, {LEAST, LEAST, LEAST}, {-1, 0, 2}, {0, -1, 2}};
             for (int[] b : below) {
                 edges.is("copy from " + b[0] + " to " + b[1] + ", " + b[2], x.copy(0, b[0], 1, b[1], b[2]), INDEX);
                 edges.is("fault()", x.fault(), 3);
@@ -318,8 +318,8 @@ public final class SheetsEdgeTest {
         edges.of(23, "INDEX: i, j, n beyond", x -> {
             x.sheet(0, 2, 3);
             x.sheet(1, 2, 5);
-            int[][] beyond = {{0, 0, 4}, {1, 0, 3}, {3, 0, 1}, {4, 0, 0}, {0, 3, 3}, {0, 5, 1}, {0, 6, 0}, {MOST, 0, 0}, {0, MOST, 0},
-                {0, 0, MOST}, {1, 0, MOST}, {0, 1, MOST}, {MOST, MOST, MOST}, {MOST, 0, 1}, {0, MOST, 1}};
+            int[][] beyond = {{0, 0, 4}, {1, 0, 3}, {3, 0, 1}, {4, 0, 0}, {0, 3, 3}, {0, 5, 1}, {0, 6, 0}, {MOST, 0, 0},
+                {0, MOST, 0}, {0, 0, MOST}, {1, 0, MOST}, {0, 1, MOST}, {MOST, MOST, MOST}, {MOST, 0, 1}, {0, MOST, 1}};
             for (int[] b : beyond) {
                 edges.is("copy from " + b[0] + " to " + b[1] + ", " + b[2], x.copy(0, b[0], 1, b[1], b[2]), INDEX);
                 edges.is("fault()", x.fault(), 3);
